@@ -29,11 +29,11 @@ public final class FleetDesk {
     /** Bit i is set when a booking holds the number i. */
     private int held = 0;
 
-    // A booking has two ends: 2 * id is its pickup and 2 * id + 1 its return, the order in which the first plan lists them.
+    // A booking has two ends, numbered in the order of the first plan's list: 2 * id its pickup, 2 * id + 1 its return.
     private final int[] askedSet = new int[ENDS];
     private final int[] endTime = new int[ENDS];
 
-    /** The sets that count when good plans are looked for: the asked ones, but for those that a question narrows meanwhile. */
+    /** The sets that good plans are looked for with: the asked ones, but where a question narrows one meanwhile. */
     private final int[] openSet = new int[ENDS];
 
     public FleetDesk(int capacity, int at0, int at1, int at2) {
@@ -230,8 +230,8 @@ public final class FleetDesk {
     }
 
     /**
-     * The number of vehicles that serve a pickup of the group or a further one of the set pick at time t (none when pick
-     * is 0), less the size of the group.
+     * The number of vehicles that serve a pickup of the group or a further one of the set pick at time t (no further
+     * one when pick is 0), less the size of the group.
      */
     private int slackOf(int group, int pick, int t) {
         int slack = 0;

@@ -9,7 +9,8 @@ public final class FleetDeskAgainstPlans {
     private static final int MOST_CALLS = 512;
     private static final int RUNS = 600;
     private static final int MOST_TOLD = 20;
-    private static final int[] ODD = {-1, -2, 4, 5, 8, 9, 10, 15, 16, 17, 31, 32, 33, -32, Integer.MIN_VALUE, Integer.MAX_VALUE};
+    private static final int[] ODD = {
+        -1, -2, 4, 5, 8, 9, 10, 15, 16, 17, 31, 32, 33, -32, Integer.MIN_VALUE, Integer.MAX_VALUE};
 
     private static int wrong = 0;
     private static long calls = 0;
@@ -18,7 +19,7 @@ public final class FleetDeskAgainstPlans {
         for (int run = 1; run <= RUNS; run++) {
             new Run(run).go();
         }
-        System.out.println(wrong == 0 ? calls + " answers are as the plans ask" : wrong + " answers are not as the plans ask");
+        System.out.println(wrong == 0 ? calls + " answers are as due" : wrong + " answers are not as due");
         if (wrong != 0) {
             System.exit(1);
         }
@@ -81,13 +82,16 @@ public final class FleetDeskAgainstPlans {
                 case 3 -> {
                     int pick = anySet();
                     int n = odd(15) ? oddNumber() : random.nextInt(10);
-                    due("shortage(" + pick + ", " + x + ", " + n + ")", desk.shortage(pick, x, n), slow.shortage(pick, x, n));
+                    String words = "(" + pick + ", " + x + ", " + n + ")";
+                    due("shortage" + words, desk.shortage(pick, x, n), slow.shortage(pick, x, n));
                 }
                 case 4 -> due("spare(" + s + ", " + x + ")", desk.spare(s, x), slow.spare(s, x));
                 case 5 -> due("pickupOf(" + id + ")", desk.pickupOf(id), slow.stationOf(id, 0));
                 case 6 -> due("returnOf(" + id + ")", desk.returnOf(id), slow.stationOf(id, 1));
-                case 7 -> due("couldPick(" + id + ", " + s + ")", bit(desk.couldPick(id, s)), bit(slow.could(id, 0, s)));
-                default -> due("couldReturn(" + id + ", " + s + ")", bit(desk.couldReturn(id, s)), bit(slow.could(id, 1, s)));
+                case 7 -> due("couldPick(" + id + ", " + s + ")",
+                        bit(desk.couldPick(id, s)), bit(slow.could(id, 0, s)));
+                default -> due("couldReturn(" + id + ", " + s + ")",
+                        bit(desk.couldReturn(id, s)), bit(slow.could(id, 1, s)));
             }
         }
 
@@ -113,7 +117,8 @@ public final class FleetDeskAgainstPlans {
             if (got != want) {
                 wrong++;
                 if (wrong <= MOST_TOLD) {
-                    System.out.println("run " + number + ": " + call + " answered " + got + ", due is " + want + " with " + slow);
+                    System.out.println("run " + number + ": " + call + " answered " + got + ", due is " + want
+                            + " after which there are " + slow);
                 }
             }
         }
@@ -170,7 +175,10 @@ public final class FleetDeskAgainstPlans {
 
         SlowDesk(int capacity, int at0, int at1, int at2) {
             this.capacity = Math.min(5, Math.max(1, capacity));
-            stocks = new int[] {Math.min(3, Math.max(0, at0)), Math.min(3, Math.max(0, at1)), Math.min(3, Math.max(0, at2)), 0};
+            stocks = new int[] {at0, at1, at2, 0};
+            for (int s = 0; s < 4; s++) {
+                stocks[s] = Math.min(3, Math.max(0, stocks[s]));
+            }
             lookAtAllPlans();
         }
 
@@ -394,7 +402,8 @@ public final class FleetDeskAgainstPlans {
 
         @Override
         public String toString() {
-            return "capacity " + capacity + ", stocks " + Arrays.toString(stocks) + ", bookings " + Arrays.deepToString(booked);
+            return "capacity " + capacity + ", stocks " + Arrays.toString(stocks)
+                    + ", bookings " + Arrays.deepToString(booked);
         }
     }
 }

@@ -8,7 +8,7 @@ import java.util.Set;
 import java.util.TreeMap;
 import java.util.TreeSet;
 
-/** The face of FleetDesk is the document's and nothing else, and its members keep to the rules of LANGUAGE.md that can be seen here. */
+/** The face of FleetDesk is the document's and nothing else; its members keep to what LANGUAGE.md says of members. */
 public final class FleetDeskFace {
     private static int wrong = 0;
 
@@ -89,8 +89,8 @@ public final class FleetDeskFace {
             Class<?> type = f.getType().isArray() ? f.getType().getComponentType() : f.getType();
             due(f.getName() + " is of a type the rules leave", numbers.contains(type), true);
             if (Modifier.isStatic(f.getModifiers())) {
-                due(f.getName() + " is a constant of int or long",
-                        Modifier.isFinal(f.getModifiers()) && (f.getType() == int.class || f.getType() == long.class), true);
+                boolean isWhole = f.getType() == int.class || f.getType() == long.class;
+                due(f.getName() + " is a constant of int or long", Modifier.isFinal(f.getModifiers()) && isWhole, true);
             }
         }
     }

@@ -280,7 +280,7 @@ public final class FleetDeskPromises {
         FleetDesk d = new FleetDesk(5, 2, 1, 0);
         d.book(1, 4, 1, 5);
         d.book(3, 4, 4, 5);
-        d.book(2, 8 - 1, 4, 8);
+        d.book(2, 7, 4, 8);
         String before = look(d);
         due("5: two at 0 are needed", d.setStock(0, 1), REFUSED);
         due("5: one at 1 is needed", d.setStock(1, 0), REFUSED);
@@ -547,10 +547,10 @@ public final class FleetDeskPromises {
     private static String look(FleetDesk d) {
         StringBuilder seen = new StringBuilder("bookings " + d.bookings() + ", stocks");
         for (int s = 0; s < 4; s++) {
-            seen.append(' ').append(d.stock(s)).append(" with spare ").append(d.spare(s, 0)).append('/').append(d.spare(s, 8));
+            seen.append(" " + d.stock(s) + " with spare " + d.spare(s, 0) + "/" + d.spare(s, 8));
         }
         for (int id = 0; id < 5; id++) {
-            seen.append(", ").append(id).append(" from ").append(d.pickupOf(id)).append(" to ").append(d.returnOf(id)).append(" of");
+            seen.append(", " + id + " from " + d.pickupOf(id) + " to " + d.returnOf(id) + " of");
             for (int s = 0; s < 4; s++) {
                 seen.append(d.couldPick(id, s) ? " p" : " -").append(d.couldReturn(id, s) ? "r" : "-");
             }
