@@ -1,26 +1,8 @@
 /** The promises of the document one by one: ordinary inputs, the edges that the document names, and wrong inputs. */
-public final class FleetDeskPromises {
-    private static final int BAD = FleetDesk.BAD;
-    private static final int FULL = FleetDesk.FULL;
-    private static final int REFUSED = FleetDesk.REFUSED;
-    private static final int NONE = FleetDesk.NONE;
-
+public final class FleetDeskPromises extends Checks {
     private static final int[] NOT_STATIONS = {-1, 4, 5, 8, 32, -4, -32, Integer.MIN_VALUE, Integer.MAX_VALUE};
     private static final int[] NOT_SETS = {0, 16, 17, -1, -15, 31, 32, Integer.MIN_VALUE, Integer.MAX_VALUE};
     private static final int[] NOT_TIMES = {-1, 9, 10, -9, Integer.MIN_VALUE, Integer.MAX_VALUE};
-
-    private static int wrong = 0;
-
-    private static void due(String call, int got, int want) {
-        if (got != want) {
-            wrong++;
-            System.out.println(call + " answered " + got + ", due is " + want);
-        }
-    }
-
-    private static void due(String call, boolean got, boolean want) {
-        due(call, got ? 1 : 0, want ? 1 : 0);
-    }
 
     public static void main(String[] args) {
         promise1NewObject();
@@ -52,10 +34,7 @@ public final class FleetDeskPromises {
         promise12CouldPick();
         promise13CouldReturn();
         promises12And13Edges();
-        System.out.println(wrong == 0 ? "all promises are kept" : wrong + " answers are not as due");
-        if (wrong != 0) {
-            System.exit(1);
-        }
+        end();
     }
 
     private static void promise1NewObject() {
@@ -534,27 +513,5 @@ public final class FleetDeskPromises {
             due("12: couldPick(0, " + s + ")", d.couldPick(0, s), true);
             due("13: couldReturn(0, " + s + ")", d.couldReturn(0, s), true);
         }
-    }
-
-    private static void same(String when, String got, String want) {
-        if (!got.equals(want)) {
-            wrong++;
-            System.out.println(when + " the object looks like " + got + ", due is " + want);
-        }
-    }
-
-    /** All that an object answers of its state without arguments of a caller's choice: some sixty calls. */
-    private static String look(FleetDesk d) {
-        StringBuilder seen = new StringBuilder("bookings " + d.bookings() + ", stocks");
-        for (int s = 0; s < 4; s++) {
-            seen.append(" " + d.stock(s) + " with spare " + d.spare(s, 0) + "/" + d.spare(s, 8));
-        }
-        for (int id = 0; id < 5; id++) {
-            seen.append(", " + id + " from " + d.pickupOf(id) + " to " + d.returnOf(id) + " of");
-            for (int s = 0; s < 4; s++) {
-                seen.append(d.couldPick(id, s) ? " p" : " -").append(d.couldReturn(id, s) ? "r" : "-");
-            }
-        }
-        return seen.toString();
     }
 }
