@@ -253,20 +253,16 @@ public final class FleetDeskChangesEdges extends Checks {
     private static void bookBadBeforeFull() {
         sentence("2: by the first that applies, BAD before FULL");
         for (int capacity = 1; capacity <= 5; capacity++) {
-            FleetDesk d = fullDesk(capacity);
-            dueBook(d, 0, 0, 1, 1, BAD);
-            dueBook(d, 16, 0, 1, 1, BAD);
-            dueBook(d, 1, 0, 0, 1, BAD);
-            dueBook(d, 1, 0, 16, 1, BAD);
-            dueBook(d, 1, -1, 1, 1, BAD);
-            dueBook(d, 1, 4, 1, 4, BAD);
-            dueBook(d, 1, 0, 1, 9, BAD);
+            dueBadForEachArgument(fullDesk(capacity));
         }
     }
 
     private static void bookBadBeforeRefused() {
         sentence("2: by the first that applies, BAD before REFUSED");
-        FleetDesk d = new FleetDesk(5, 0, 0, 0);
+        dueBadForEachArgument(new FleetDesk(5, 0, 0, 0));
+    }
+
+    private static void dueBadForEachArgument(FleetDesk d) {
         dueBook(d, 0, 0, 1, 1, BAD);
         dueBook(d, 16, 0, 1, 1, BAD);
         dueBook(d, 1, 0, 0, 1, BAD);

@@ -2,10 +2,11 @@ import java.util.TreeSet;
 
 /** What the project's tests share: telling the answers that are not as due, and making desks and wrong arguments. */
 abstract class Checks {
-    static final int BAD = FleetDesk.BAD;
-    static final int FULL = FleetDesk.FULL;
-    static final int REFUSED = FleetDesk.REFUSED;
-    static final int NONE = FleetDesk.NONE;
+    // The document's numbers, not the class's names: an answer is due as a number.
+    static final int BAD = -1;
+    static final int FULL = -2;
+    static final int REFUSED = -3;
+    static final int NONE = -1;
 
     private static String sentence = "";
     private static int sentences = 0;
