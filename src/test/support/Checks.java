@@ -13,6 +13,15 @@ abstract class Checks {
     private static int answers = 0;
     private static int wrong = 0;
 
+    static {
+        // No call may throw; one that does is told with its sentence too.
+        Thread.setDefaultUncaughtExceptionHandler((thread, thrown) -> {
+            System.out.println(sentence + "a call threw " + thrown);
+            thrown.printStackTrace();
+            System.exit(1);
+        });
+    }
+
     /** Names the sentence of the document that the answers from here on are looked at for. */
     static void sentence(String words) {
         sentence = words + " | ";
